@@ -334,7 +334,7 @@ public final class PendulumHall {
         if (isOutside(n, 1, 1000)) {
             throw new IllegalArgumentException("n is 1 to 1000");
         }
-        return bobRow.stepOn(n);
+        return bobRow.stepMany(n, false);
     }
 
     /** Does up to n steps back, and returns how many were done. */
@@ -345,7 +345,7 @@ public final class PendulumHall {
         if (bobRow.isDriven()) {
             throw new IllegalStateException("there is air or a push");
         }
-        return bobRow.stepBack(n);
+        return bobRow.stepMany(n, true);
     }
 
     /** Returns the place or the speed of a bob. */
@@ -1015,20 +1015,13 @@ public final class PendulumHall {
             return speeds[bob];
         }
 
-        int stepOn(int n) {
+        int stepMany(int n, boolean isBack) {
             for (int done = 0; done < n; done++) {
-                planStep();
-                if (!isPlanWithin()) {
-                    return done;
+                if (isBack) {
+                    planStepBack();
+                } else {
+                    planStep();
                 }
-                takePlan();
-            }
-            return n;
-        }
-
-        int stepBack(int n) {
-            for (int done = 0; done < n; done++) {
-                planStepBack();
                 if (!isPlanWithin()) {
                     return done;
                 }

@@ -96,6 +96,10 @@ public final class ModelTest {
         }
     }
 
+    private int noneOr(int least, int most) {
+        return random.nextBoolean() ? 0 : some(least, most);
+    }
+
     private int sign() {
         return random.nextBoolean() ? 1 : -1;
     }
@@ -181,7 +185,7 @@ public final class ModelTest {
                 break;
             case 1: call("pull", some(0, bobCount - 1), some(-100000, 100000), some(-100000, 100000)); break;
             case 2: call("pull", some(0, bobCount - 1), some(-50, 50), some(-50, 50)); break;
-            case 3: call("drive", random.nextBoolean() ? 0 : some(0, 100), random.nextBoolean() ? 0 : some(-1000, 1000)); break;
+            case 3: call("drive", noneOr(0, 100), noneOr(-1000, 1000)); break;
             case 4: call("step", some(1, 1000)); break;
             case 5: call("step", some(1, 7)); break;
             case 6:
