@@ -14,10 +14,8 @@ public final class BeamTest {
         Check.end();
     }
 
-    private static final PendulumHall HALL = new PendulumHall();
-
     private static void tick(int w, int c, int d, int want) {
-        Check.due("phase(" + w + ", " + c + ", " + d + ", 1)", HALL.phase(w, c, d, 1), want);
+        Check.due("phase(" + w + ", " + c + ", " + d + ", 1)", Halls.asked().phase(w, c, d, 1), want);
     }
 
     private static void oneTick() {
@@ -49,17 +47,17 @@ public final class BeamTest {
     }
 
     private static void manyTicks() {
-        Check.due("no tick", HALL.phase(17, 200, 421, 0), 421);
-        Check.due("10000 ticks of 1", HALL.phase(1, 0, 5, 10000), 5);
-        Check.due("9999 ticks of 1", HALL.phase(1, 0, 5, 9999), 4);
-        Check.due("999 ticks of 3", HALL.phase(3, 0, 0, 999), 997);
-        Check.due("locked", HALL.phase(100, 100, 0, 10000), 100);
+        Check.due("no tick", Halls.asked().phase(17, 200, 421, 0), 421);
+        Check.due("10000 ticks of 1", Halls.asked().phase(1, 0, 5, 10000), 5);
+        Check.due("9999 ticks of 1", Halls.asked().phase(1, 0, 5, 9999), 4);
+        Check.due("999 ticks of 3", Halls.asked().phase(3, 0, 0, 999), 997);
+        Check.due("locked", Halls.asked().phase(100, 100, 0, 10000), 100);
         for (int w = 0; w < 1000; w += 37) {
             for (int c = 0; c <= 300; c += 25) {
                 int phase = w * 7 % 1000;
                 for (int n = 1; n <= 20; n++) {
                     phase = walked(w, c, phase)[0];
-                    Check.due("phase by walking", HALL.phase(w, c, w * 7 % 1000, n), phase);
+                    Check.due("phase by walking", Halls.asked().phase(w, c, w * 7 % 1000, n), phase);
                 }
             }
         }
@@ -107,9 +105,9 @@ public final class BeamTest {
 
     private static void round(int w, int c, int d, int period, int turns, int lead) {
         String call = "round(" + w + ", " + c + ", " + d + ", ";
-        Check.due(call + "0)", HALL.round(w, c, d, 0), period);
-        Check.due(call + "1)", HALL.round(w, c, d, 1), turns);
-        Check.due(call + "2)", HALL.round(w, c, d, 2), lead);
+        Check.due(call + "0)", Halls.asked().round(w, c, d, 0), period);
+        Check.due(call + "1)", Halls.asked().round(w, c, d, 1), turns);
+        Check.due(call + "2)", Halls.asked().round(w, c, d, 2), lead);
     }
 
     private static void roundsByHand() {
@@ -149,7 +147,8 @@ public final class BeamTest {
     }
 
     private static void tongue(int c, int turns, int period, int want) {
-        Check.due("tongue(" + c + ", " + turns + ", " + period + ")", HALL.tongue(c, turns, period), want);
+        Check.due("tongue(" + c + ", " + turns + ", " + period + ")",
+                Halls.asked().tongue(c, turns, period), want);
     }
 
     private static void tonguesByHand() {
@@ -185,16 +184,16 @@ public final class BeamTest {
     }
 
     private static void wrongInputs() {
-        Check.dueRange("phase's w", 0, 999, Check.ILLEGAL, w -> HALL.phase(w, 0, 0, 1));
-        Check.dueRange("phase's c", 0, 300, Check.ILLEGAL, c -> HALL.phase(0, c, 0, 1));
-        Check.dueRange("phase's d", 0, 999, Check.ILLEGAL, d -> HALL.phase(0, 0, d, 1));
-        Check.dueRange("phase's n", 0, 10000, Check.ILLEGAL, n -> HALL.phase(0, 0, 0, n));
-        Check.dueRange("round's w", 0, 999, Check.ILLEGAL, w -> HALL.round(w, 0, 0, 1));
-        Check.dueRange("round's c", 0, 300, Check.ILLEGAL, c -> HALL.round(0, c, 0, 1));
-        Check.dueRange("round's d", 0, 999, Check.ILLEGAL, d -> HALL.round(0, 0, d, 1));
-        Check.dueRange("round's what", 0, 2, Check.ILLEGAL, what -> HALL.round(0, 0, 0, what));
-        Check.dueRange("tongue's c", 0, 300, Check.ILLEGAL, c -> HALL.tongue(c, 1, 1));
-        Check.dueRange("tongue's turns", 0, 100, Check.ILLEGAL, turns -> HALL.tongue(100, turns, 1));
-        Check.dueRange("tongue's period", 1, 100, Check.ILLEGAL, period -> HALL.tongue(100, 1, period));
+        Check.dueRange("phase's w", 0, 999, Check.ILLEGAL, w -> Halls.asked().phase(w, 0, 0, 1));
+        Check.dueRange("phase's c", 0, 300, Check.ILLEGAL, c -> Halls.asked().phase(0, c, 0, 1));
+        Check.dueRange("phase's d", 0, 999, Check.ILLEGAL, d -> Halls.asked().phase(0, 0, d, 1));
+        Check.dueRange("phase's n", 0, 10000, Check.ILLEGAL, n -> Halls.asked().phase(0, 0, 0, n));
+        Check.dueRange("round's w", 0, 999, Check.ILLEGAL, w -> Halls.asked().round(w, 0, 0, 1));
+        Check.dueRange("round's c", 0, 300, Check.ILLEGAL, c -> Halls.asked().round(0, c, 0, 1));
+        Check.dueRange("round's d", 0, 999, Check.ILLEGAL, d -> Halls.asked().round(0, 0, d, 1));
+        Check.dueRange("round's what", 0, 2, Check.ILLEGAL, what -> Halls.asked().round(0, 0, 0, what));
+        Check.dueRange("tongue's c", 0, 300, Check.ILLEGAL, c -> Halls.asked().tongue(c, 1, 1));
+        Check.dueRange("tongue's turns", 0, 100, Check.ILLEGAL, turns -> Halls.asked().tongue(100, turns, 1));
+        Check.dueRange("tongue's period", 1, 100, Check.ILLEGAL, period -> Halls.asked().tongue(100, 1, period));
     }
 }

@@ -2,8 +2,6 @@ import java.util.Random;
 
 /** Promises 15 and 16: beats that fall together. */
 public final class BeatsTest {
-    private static final PendulumHall HALL = new PendulumHall();
-
     public static void main(String[] args) {
         byHand();
         bothByHand();
@@ -13,13 +11,14 @@ public final class BeatsTest {
     }
 
     private static void together(int p, int q, int tolerance, int want) {
-        Check.due("together(" + p + ", " + q + ", " + tolerance + ")", HALL.together(p, q, tolerance), want);
+        Check.due("together(" + p + ", " + q + ", " + tolerance + ")",
+                Halls.asked().together(p, q, tolerance), want);
     }
 
     private static void both(int p, int q, int tolerance, int want) {
         together(p, q, tolerance, want);
         Check.due("togetherAnew(" + p + ", " + q + ", " + tolerance + ")",
-                HALL.togetherAnew(p, q, tolerance), want);
+                Halls.asked().togetherAnew(p, q, tolerance), want);
     }
 
     private static void byHand() {
@@ -95,15 +94,15 @@ public final class BeatsTest {
     }
 
     private static void wrongInputs() {
-        Check.dueRange("together's p", 1, 2000000, Check.ILLEGAL, p -> HALL.together(p, 7, 0));
-        Check.dueRange("together's q", 1, 2000000, Check.ILLEGAL, q -> HALL.together(7, q, 0));
+        Check.dueRange("together's p", 1, 2000000, Check.ILLEGAL, p -> Halls.asked().together(p, 7, 0));
+        Check.dueRange("together's q", 1, 2000000, Check.ILLEGAL, q -> Halls.asked().together(7, q, 0));
         Check.dueRange("together's tolerance", 0, 1000000, Check.ILLEGAL,
-                tolerance -> HALL.together(7, 7, tolerance));
+                tolerance -> Halls.asked().together(7, 7, tolerance));
         Check.dueRange("togetherAnew's p", 100000, 2000000, Check.ILLEGAL,
-                p -> HALL.togetherAnew(p, 100000, 0));
+                p -> Halls.asked().togetherAnew(p, 100000, 0));
         Check.dueRange("togetherAnew's q", 100000, 2000000, Check.ILLEGAL,
-                q -> HALL.togetherAnew(100000, q, 0));
+                q -> Halls.asked().togetherAnew(100000, q, 0));
         Check.dueRange("togetherAnew's tolerance", 0, 1000000, Check.ILLEGAL,
-                tolerance -> HALL.togetherAnew(100000, 100000, tolerance));
+                tolerance -> Halls.asked().togetherAnew(100000, 100000, tolerance));
     }
 }

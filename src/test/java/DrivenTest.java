@@ -1,7 +1,5 @@
 /** Promises 26 to 29: moves, rounds and parting of the driven one. */
 public final class DrivenTest {
-    private static final PendulumHall HALL = new PendulumHall();
-
     public static void main(String[] args) {
         movesByHand();
         movesByWalking();
@@ -14,7 +12,7 @@ public final class DrivenTest {
 
     private static void driven(int place, int speed, int k, int n, int want) {
         Check.due("driven(" + place + ", " + speed + ", " + k + ", " + n + ")",
-                HALL.driven(place, speed, k, n), want);
+                Halls.asked().driven(place, speed, k, n), want);
     }
 
     private static void move(int place, int speed, int k, int thenPlace, int thenSpeed) {
@@ -70,16 +68,17 @@ public final class DrivenTest {
                 }
             }
         }
-        int far = HALL.driven(11, 22, 33, 10000);
+        int far = Halls.asked().driven(11, 22, 33, 10000);
         driven(far / 64, far % 64, 33, -10000, 64 * 11 + 22);
     }
 
     private static void returns(int place, int speed, int k, int want) {
-        Check.due("returns(" + place + ", " + speed + ", " + k + ")", HALL.returns(place, speed, k), want);
+        Check.due("returns(" + place + ", " + speed + ", " + k + ")",
+                Halls.asked().returns(place, speed, k), want);
     }
 
     private static void rounds(int k, int length, int want) {
-        Check.due("rounds(" + k + ", " + length + ")", HALL.rounds(k, length), want);
+        Check.due("rounds(" + k + ", " + length + ")", Halls.asked().rounds(k, length), want);
     }
 
     private static void roundsByHand() {
@@ -139,11 +138,11 @@ public final class DrivenTest {
     }
 
     private static void partings() {
-        Check.due("no move", HALL.parting(7, 7, 77, 0), 1);
-        Check.due("no move, beside 63 at 0", HALL.parting(63, 7, 77, 0), 1);
-        Check.due("no drive", HALL.parting(12, 5, 0, 10000), 1);
+        Check.due("no move", Halls.asked().parting(7, 7, 77, 0), 1);
+        Check.due("no move, beside 63 at 0", Halls.asked().parting(63, 7, 77, 0), 1);
+        Check.due("no drive", Halls.asked().parting(12, 5, 0, 10000), 1);
         // 1 goes to 4, 2 to 9; their speeds are 3 and 7.
-        Check.due("one move", HALL.parting(1, 0, 16, 1), 5 + 4);
+        Check.due("one move", Halls.asked().parting(1, 0, 16, 1), 5 + 4);
         for (int k = 0; k <= 200; k += 9) {
             for (int place = 0; place < 64; place += place == 60 ? 3 : 4) {
                 int speed = (place + k * 3) % 64;
@@ -154,29 +153,29 @@ public final class DrivenTest {
                     second = walked(second[0], second[1], k);
                     int want = shorter(first[0], second[0]) + shorter(first[1], second[1]);
                     Check.due("parting(" + place + ", " + speed + ", " + k + ", " + n + ")",
-                            HALL.parting(place, speed, k, n), want);
+                            Halls.asked().parting(place, speed, k, n), want);
                 }
             }
         }
     }
 
     private static void wrongInputs() {
-        Check.dueRange("driven's place", 0, 63, Check.ILLEGAL, place -> HALL.driven(place, 1, 1, 1));
-        Check.dueRange("driven's speed", 0, 63, Check.ILLEGAL, speed -> HALL.driven(1, speed, 1, 1));
-        Check.dueRange("driven's k", 0, 200, Check.ILLEGAL, k -> HALL.driven(1, 1, k, 1));
-        Check.dueRange("driven's n", -10000, 10000, Check.ILLEGAL, n -> HALL.driven(1, 1, 1, n));
-        Check.dueRange("returns' place", 0, 63, Check.ILLEGAL, place -> HALL.returns(place, 1, 1));
-        Check.dueRange("returns' speed", 0, 63, Check.ILLEGAL, speed -> HALL.returns(1, speed, 1));
-        Check.dueRange("returns' k", 0, 200, Check.ILLEGAL, k -> HALL.returns(1, 1, k));
-        Check.dueRange("rounds' k", 0, 200, Check.ILLEGAL, k -> HALL.rounds(k, 1));
-        Check.dueThrow("rounds of length 0", Check.ILLEGAL, () -> HALL.rounds(1, 0));
-        Check.dueThrow("rounds of length -2", Check.ILLEGAL, () -> HALL.rounds(1, -2));
-        Check.dueThrow("rounds of length 4097", Check.ILLEGAL, () -> HALL.rounds(1, 4097));
-        Check.dueThrow("rounds of least length", Check.ILLEGAL, () -> HALL.rounds(1, Integer.MIN_VALUE));
-        Check.dueThrow("rounds of NONE, bad k", Check.ILLEGAL, () -> HALL.rounds(201, PendulumHall.NONE));
-        Check.dueRange("parting's place", 0, 63, Check.ILLEGAL, place -> HALL.parting(place, 1, 1, 1));
-        Check.dueRange("parting's speed", 0, 63, Check.ILLEGAL, speed -> HALL.parting(1, speed, 1, 1));
-        Check.dueRange("parting's k", 0, 200, Check.ILLEGAL, k -> HALL.parting(1, 1, k, 1));
-        Check.dueRange("parting's n", 0, 10000, Check.ILLEGAL, n -> HALL.parting(1, 1, 1, n));
+        Check.dueRange("driven's place", 0, 63, Check.ILLEGAL, place -> Halls.asked().driven(place, 1, 1, 1));
+        Check.dueRange("driven's speed", 0, 63, Check.ILLEGAL, speed -> Halls.asked().driven(1, speed, 1, 1));
+        Check.dueRange("driven's k", 0, 200, Check.ILLEGAL, k -> Halls.asked().driven(1, 1, k, 1));
+        Check.dueRange("driven's n", -10000, 10000, Check.ILLEGAL, n -> Halls.asked().driven(1, 1, 1, n));
+        Check.dueRange("returns' place", 0, 63, Check.ILLEGAL, place -> Halls.asked().returns(place, 1, 1));
+        Check.dueRange("returns' speed", 0, 63, Check.ILLEGAL, speed -> Halls.asked().returns(1, speed, 1));
+        Check.dueRange("returns' k", 0, 200, Check.ILLEGAL, k -> Halls.asked().returns(1, 1, k));
+        Check.dueRange("rounds' k", 0, 200, Check.ILLEGAL, k -> Halls.asked().rounds(k, 1));
+        Check.dueThrow("rounds of length 0", Check.ILLEGAL, () -> Halls.asked().rounds(1, 0));
+        Check.dueThrow("rounds of length -2", Check.ILLEGAL, () -> Halls.asked().rounds(1, -2));
+        Check.dueThrow("rounds of length 4097", Check.ILLEGAL, () -> Halls.asked().rounds(1, 4097));
+        Check.dueThrow("rounds of least length", Check.ILLEGAL, () -> Halls.asked().rounds(1, Integer.MIN_VALUE));
+        Check.dueThrow("rounds of NONE, bad k", Check.ILLEGAL, () -> Halls.asked().rounds(201, PendulumHall.NONE));
+        Check.dueRange("parting's place", 0, 63, Check.ILLEGAL, place -> Halls.asked().parting(place, 1, 1, 1));
+        Check.dueRange("parting's speed", 0, 63, Check.ILLEGAL, speed -> Halls.asked().parting(1, speed, 1, 1));
+        Check.dueRange("parting's k", 0, 200, Check.ILLEGAL, k -> Halls.asked().parting(1, 1, k, 1));
+        Check.dueRange("parting's n", 0, 10000, Check.ILLEGAL, n -> Halls.asked().parting(1, 1, 1, n));
     }
 }

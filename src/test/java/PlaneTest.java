@@ -1,7 +1,5 @@
 /** Promises 24 and 25: the plane that turns, and the latitude at which it does. */
 public final class PlaneTest {
-    private static final PendulumHall HALL = new PendulumHall();
-
     public static void main(String[] args) {
         turnsByHand();
         turnsByDoubles();
@@ -12,7 +10,7 @@ public final class PlaneTest {
     }
 
     private static void turned(int latitude, int minutes, float want) {
-        Check.dueFloat("turned(" + latitude + ", " + minutes + ")", HALL.turned(latitude, minutes), want);
+        Check.dueFloat("turned(" + latitude + ", " + minutes + ")", Halls.asked().turned(latitude, minutes), want);
     }
 
     private static void turnsByHand() {
@@ -53,7 +51,7 @@ public final class PlaneTest {
     }
 
     private static void latitude(int hundredths, int want) {
-        Check.due("latitude(" + hundredths + ")", HALL.latitude(hundredths), want);
+        Check.due("latitude(" + hundredths + ")", Halls.asked().latitude(hundredths), want);
     }
 
     private static void latitudesByHand() {
@@ -88,8 +86,8 @@ public final class PlaneTest {
     }
 
     private static void wrongInputs() {
-        Check.dueRange("turned's latitude", -90, 90, Check.ILLEGAL, latitude -> HALL.turned(latitude, 1));
-        Check.dueRange("turned's minutes", 0, 100000, Check.ILLEGAL, minutes -> HALL.turned(1, minutes));
-        Check.dueRange("latitude's hundredths", -2000, 2000, Check.ILLEGAL, HALL::latitude);
+        Check.dueRange("turned's latitude", -90, 90, Check.ILLEGAL, latitude -> Halls.asked().turned(latitude, 1));
+        Check.dueRange("turned's minutes", 0, 100000, Check.ILLEGAL, minutes -> Halls.asked().turned(1, minutes));
+        Check.dueRange("latitude's hundredths", -2000, 2000, Check.ILLEGAL, h -> Halls.asked().latitude(h));
     }
 }
