@@ -83,6 +83,7 @@ final class Probe {
             say("set " + clock, () -> hall.set(asked, 0));
         }
         say("clock", () -> hall.clock(PendulumHall.BRASS, 9, false, 1));
+        askClocks();
     }
 
     /** The halls' open surveys begin at the station 5. */

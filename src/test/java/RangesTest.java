@@ -72,7 +72,7 @@ public final class RangesTest {
         RangesTest full = new RangesTest("full", Halls::full, 10, 8);
         full.everyState();
         full.fullAlone();
-        fresh.questionsOfNoState();
+        busy.questionsOfNoState();
         theLastCall();
         Check.end();
     }

@@ -23,12 +23,15 @@ public final class StillTest {
         Check.end();
     }
 
-    /** Asked twice, so that a question that leaves something behind for itself is found too. */
+    /** Asked once and, in another hall, twice: what is left behind may be for the next question alone. */
     private void still(String name, Question question) {
-        PendulumHall hall = maker.make();
-        question.ask(hall);
-        question.ask(hall);
-        Check.due(state + ": " + name + " changes nothing", Probe.of(hall).equals(untouched), true);
+        PendulumHall once = maker.make();
+        question.ask(once);
+        Check.due(state + ": " + name + " changes nothing", Probe.of(once).equals(untouched), true);
+        PendulumHall twice = maker.make();
+        question.ask(twice);
+        question.ask(twice);
+        Check.due(state + ": " + name + ", again, changes nothing", Probe.of(twice).equals(untouched), true);
     }
 
     private void everyQuestion() {
@@ -117,8 +120,19 @@ public final class StillTest {
         }
     }
 
-    /** Surveys that cannot be closed, steps that cannot be done. */
+    /** A time of no clock, surveys that cannot be closed, steps that cannot be done. */
     private static void wrongOnesThatAreNotOfRanges() {
+        Halls.Maker clockless = () -> {
+            PendulumHall hall = Halls.fresh();
+            hall.read(5, 0, 0);
+            hall.read(6, 1, 9);
+            hall.chain(2, 3, 4);
+            return hall;
+        };
+        PendulumHall none = clockless.make();
+        Check.dueThrow("time of no clock", Check.STATE, none::time);
+        Check.due("time that throws changes nothing",
+                Probe.of(none).equals(Probe.of(clockless.make())), true);
         int[][] open = {{}, {5, 1}, {5, 1, 6, 2}, {5, 1, 5, 2}, {5, 1, 6, 2, 7, 3},
             {5, 1, 5, 2, 5, 3}, {5, 1, 6, 2, 6, 3, 5, 4}};
         for (int[] told : open) {
